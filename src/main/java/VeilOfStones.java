@@ -1336,13 +1336,13 @@ public final class VeilOfStones {
             int least = veils[0];
             int greatest = least;
             for (int sister = 0; sister < sisters && sister < MOST_SISTERS; sister++) {
-                if (sizes[sister] > MOST_IN_VEIL) {
-                    return false;
-                }
                 least = Math.min(least, veils[sister]);
                 greatest = Math.max(greatest, veils[sister]);
+                if (sizes[sister] > MOST_IN_VEIL || greatest - least > bound) {
+                    return false;
+                }
             }
-            return greatest - least <= bound;
+            return true;
         }
 
         private int bitsOf(int set) {
@@ -1390,9 +1390,10 @@ public final class VeilOfStones {
             return i >= 0 && i < sisters ? best[i] : NO_SUCH;
         }
 
+        /** Of this order; one that steps no less than the best is not gone through to its end. */
         private int greatestStep() {
             int greatest = 0;
-            for (int i = 1; i < sisters; i++) {
+            for (int i = 1; i < sisters && greatest < least; i++) {
                 greatest = Math.max(greatest, Math.abs(veilAt(i) - veilAt(i - 1)));
             }
             return greatest;

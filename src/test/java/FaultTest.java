@@ -75,6 +75,13 @@ public final class FaultTest {
         check.bad("weighs Kind;", 1, 7);
         check.bad("weighs kind1;", 1, 11);
         check.bad("weighs kindage;", 1, 7);
+        for (char letter : new char[] {'a', 'z', 'A', 'Z'}) {
+            check.bad("weighs kind" + letter + ";", 1, 7);
+            check.bad("weighs " + letter + "kind;", 1, 7);
+        }
+        for (char sign : new char[] {'`', '{', '@', '[', ':', 0, 255, '.', '_'}) {
+            check.bad("weighs kind" + sign + ";", 1, 11);
+        }
         check.bad("goes 1;", 1, 6);
         check.bad("goes 1 and 2 = 2;", 1, 7);
         check.bad("goes 1 = 2 = 3;", 1, 11);

@@ -113,6 +113,13 @@ public final class LawTest {
         check.goes("7 = 1 + 2 * 3 and -(1) < 0", 0, true);
         check.goes("2 - 1 - 1 = 0 and 2 - (1 - 1) = 2", 0, true);
         check.goes("9999 * 9999 = 9999 * 9998", 0, true);
+        // As much as can wait at once: or, and, not, a sign, and + and * around each of the brackets.
+        String deep7 = "1+2*" + "(1+2*".repeat(7) + "3" + ")".repeat(7);
+        String deep8 = "1+2*" + "(1+2*".repeat(8) + "3" + ")".repeat(8);
+        check.goes("1=2 or 1=1 and not 1023 # " + deep7, 0, true);
+        check.goes("1=2 or 1=1 and not 1022 # " + deep7, 0, false);
+        check.goes("1=2 or 1=1 and 2047 = " + deep8, 0, true);
+        check.goes("1=2 or 1=1 and 2048 = " + deep8, 0, false);
     }
 
     private static void withoutLaws(Check check) {

@@ -114,6 +114,21 @@ public final class OrderTest {
         check.due("level(36): no room for both", x.level(36), -1);
         x.sin(5, 1);
         check.due("level(36): room for both", x.level(36), 12);
+        // The other way round: it is SISTER 0 who has no room for both.
+        VeilOfStones y = Check.convent(2);
+        y.vow(2, 0);
+        y.vow(3, 0);
+        y.sin(2, 0);
+        y.sin(3, 0);
+        for (int i = 0; i < 7; i++) {
+            y.vow(0, 0);
+            y.vow(1, 1);
+        }
+        check.due("level(4)", y.level(4), 1);
+        check.due("level(3)", y.level(3), 2);
+        check.due("level(2)", y.level(2), -1);
+        y.sin(0, 0);
+        check.due("level(2)", y.level(2), 3);
     }
 
     private static void levelWithMuchGravel(Check check) {
@@ -134,6 +149,18 @@ public final class OrderTest {
         check.due("level(999) with 13", x.level(999), -1);
         x.forgive(12);
         check.due("level(0) with 12", x.level(0), 2);
+        // All twelve are needed: of SISTER 0 and 1 six each, SISTER 2 has 6.
+        VeilOfStones y = Check.convent(3);
+        for (int i = 0; i < 12; i++) {
+            y.vow(0, i % 2);
+        }
+        for (int i = 0; i < 12; i++) {
+            y.sin(0, i % 2);
+        }
+        y.vow(5, 2);
+        check.due("level(0) with all", y.level(0), 4095);
+        check.due("level(1)", y.level(1), 1023);
+        check.due("level(5)", y.level(5), 3);
     }
 
     private static void marches(Check check, VeilOfStones x, int step, int... order) {

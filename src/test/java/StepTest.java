@@ -73,7 +73,10 @@ public final class StepTest {
         check.due("no STEP", x.about(6), 0);
         check.due("storm(9999, 60)", x.storm(9999, 60), 0);
         check.due("a STEP without SINS", x.about(6), 1);
-        // SEED 1: X is 11, 1908, 18217 (11 * 167 + 71 = 1908; 1908 * 167 + 71 = 318707 = 10 * 30047 + 18237).
+        check.due("storm(0, 1)", x.storm(0, 1), 0);
+        check.due("storm(MAX, 1)", x.storm(Integer.MAX_VALUE, 1), -1);
+        check.due("storm(0, MIN)", x.storm(0, Integer.MIN_VALUE), -1);
+        // SEED 1: X is 11, 1908, 18237 (11 * 167 + 71 = 1908; 1908 * 167 + 71 = 318707 = 10 * 30047 + 18237).
         VeilOfStones y = Check.convent(2);
         for (int kind = 0; kind < 6; kind++) {
             y.vow(kind, 1);
