@@ -546,9 +546,13 @@ public final class VeilOfStones {
             count = other.count;
         }
 
+        /** Where the STEP stands that so many are kept ahead of. */
+        private int placeBehind(int ahead) {
+            return Math.floorMod(oldest + ahead, MOST) * Stones.WIDTH;
+        }
+
         void keep(Stones stones) {
-            int place = (oldest + count) % MOST;
-            System.arraycopy(stones.row, 0, rows, place * Stones.WIDTH, Stones.WIDTH);
+            System.arraycopy(stones.row, 0, rows, placeBehind(count), Stones.WIDTH);
             if (count < MOST) {
                 count++;
             } else {
@@ -561,8 +565,7 @@ public final class VeilOfStones {
                 return false;
             }
             count--;
-            int place = (oldest + count) % MOST;
-            System.arraycopy(rows, place * Stones.WIDTH, stones.row, 0, Stones.WIDTH);
+            System.arraycopy(rows, placeBehind(count), stones.row, 0, Stones.WIDTH);
             return true;
         }
     }
@@ -1322,7 +1325,7 @@ public final class VeilOfStones {
         /** From the set ahead of this one to this one. */
         private void turn(int set) {
             int turned = set == 0 ? 0 : set ^ set - 1;
-            for (int i = 0; i < gravel && turned >> i != 0; i++) {
+            for (int i = 0; i < gravel && i < MOST_GRAVEL && turned >> i != 0; i++) {
                 int owner = ownerAt[i];
                 if (owner >= 0 && owner < MOST_SISTERS) {
                     boolean comes = (set >> i & 1) == 1;
@@ -1347,7 +1350,7 @@ public final class VeilOfStones {
 
         private int bitsOf(int set) {
             int bits = 0;
-            for (int i = 0; i < gravel; i++) {
+            for (int i = 0; i < gravel && i < MOST_GRAVEL; i++) {
                 if ((set >> i & 1) == 1) {
                     bits |= 1 << stoneAt[i];
                 }
@@ -1387,7 +1390,7 @@ public final class VeilOfStones {
         }
 
         int sisterAt(int i) {
-            return i >= 0 && i < sisters ? best[i] : NO_SUCH;
+            return i >= 0 && i < sisters && i < MOST_SISTERS ? best[i] : NO_SUCH;
         }
 
         /** Of this order; one that steps no less than the best is not gone through to its end. */
@@ -1399,22 +1402,26 @@ public final class VeilOfStones {
             return greatest;
         }
 
+        private int orderAt(int i) {
+            return i >= 0 && i < MOST_SISTERS ? order[i] : 0;
+        }
+
         private int veilAt(int i) {
-            int sister = i >= 0 && i < MOST_SISTERS ? order[i] : 0;
+            int sister = orderAt(i);
             return sister >= 0 && sister < MOST_SISTERS ? veils[sister] : 0;
         }
 
         /** To the next higher order: whether there is one. */
         private boolean turn() {
             int rising = sisters - 2;
-            while (rising >= 0 && order[rising] > order[rising + 1]) {
+            while (rising >= 0 && orderAt(rising) > orderAt(rising + 1)) {
                 rising--;
             }
             if (rising < 0) {
                 return false;
             }
             int higher = sisters - 1;
-            while (higher > rising && order[higher] < order[rising]) {
+            while (higher > rising && orderAt(higher) < orderAt(rising)) {
                 higher--;
             }
             swap(rising, higher);
@@ -1469,7 +1476,7 @@ public final class VeilOfStones {
 
         private int weightOf(int set) {
             int weight = 0;
-            for (int i = 0; i < stones; i++) {
+            for (int i = 0; i < stones && i < MOST_IN_VEIL; i++) {
                 if ((set >> i & 1) == 1) {
                     weight += weightAt[i];
                 }

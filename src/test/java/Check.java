@@ -1,5 +1,5 @@
 /** What the project's tests share: it prints every answer that is not the one due. */
-final class Check {
+class Check {
     private int wrong = 0;
     private int asked = 0;
 

@@ -22,7 +22,7 @@ public final class LanguageTest {
         "int done(int,int,int,boolean)", "int tell(int,int,int)", "int hush()", "int fits()", "int next()",
         "int image()", "int back()", "int about(int)"));
     private static final Set<String> LIBRARY = Set.of(
-        "Math.max", "Math.min", "Math.abs", "Integer.bitCount", "Integer.compare", "System.arraycopy");
+        "Math.max", "Math.min", "Math.abs", "Math.floorMod", "Integer.bitCount", "Integer.compare", "System.arraycopy");
     private static final Pattern FORBIDDEN = Pattern.compile(
         "\\b(throw|throws|try|catch|finally|synchronized|assert|import|package|float|double|var|yield|volatile)\\b"
         + "|->|::|@|\\bnew\\s+\\w+\\s*\\([^)]*\\)\\s*\\{");
