@@ -254,11 +254,12 @@ public final class ModelTest {
         boolean goes = draw.nextInt(3) != 0;
         int n = draw.nextInt(6) == 0 ? 18 + draw.nextInt(9) : draw.nextInt(5);
         int where = draw.nextInt(n + 1);
+        int goesWhere = draw.nextInt(n + 1);
         for (int i = 0; i <= n; i++) {
             if (i == where && weighs) {
                 text.append("weighs ").append(sum(false, draw.nextInt(4))).append(";");
             }
-            if (i == where && goes) {
+            if (i == goesWhere && goes) {
                 text.append(" goes ").append(either()).append(";");
             }
             if (i < n) {

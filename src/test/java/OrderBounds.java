@@ -178,6 +178,13 @@ final class OrderBounds {
             s.due("level(1) with " + n, x.level(1), n <= 12 ? 0 : -1);
             s.due("level(999) with " + n, x.level(999), n <= 12 ? 0 : -1);
         }
+        // All 12 are needed: six each of SISTERS 0 and 1, SISTER 2 has 6.
+        VeilOfStones y = Check.convent(3);
+        gravel(y, 0, 0, 0, 0, 0, 0, 0);
+        gravel(y, 1, 0, 0, 0, 0, 0, 0);
+        y.vow(5, 2);
+        s.due("level(0) by all 12", y.level(0), 0xFFF);
+        s.due("level(1) by 10", y.level(1), 0x7DF);
         // The last of 12 counts as well: STONES 1 .. 11 weigh 1, STONE 12 weighs 6.
         VeilOfStones x = Check.convent(2);
         x.vow(5, 0);
@@ -207,6 +214,10 @@ final class OrderBounds {
         marches(s, weighing(1, 20, 2, 19, 3, 18), 15, 0, 2, 4, 5, 1, 3);
         marches(s, weighing(0, 5, 10, 15, 20, 25), 5, 0, 1, 2, 3, 4, 5);
         marches(s, weighing(25, 0, 20, 5, 15, 10), 5, 0, 2, 4, 5, 3, 1);
+        marches(s, weighing(15, 5, 25, 10, 0, 20), 5, 2, 5, 0, 3, 1, 4);
+        marches(s, weighing(15, 5, 10, 0, 20), 5, 3, 1, 2, 0, 4);
+        marches(s, weighing(10, 5, 0, 15), 5, 2, 1, 0, 3);
+        marches(s, weighing(20, 15, 10, 5, 25, 0), 5, 4, 0, 1, 2, 3, 5);
         VeilOfStones x = Check.convent(2);
         Check.read(x, "weighs 99;");
         x.by(0);

@@ -155,6 +155,12 @@ final class ScalesBounds {
         x.tell(0, 4, -1);
         s.due("fits()", x.fits(), 2);
         s.due("next() of the one that FITS", x.next(), 1);
+        // However many tell alike on all: the lowest of all.
+        VeilOfStones z = Check.convent(3);
+        for (int n = 1; n <= 4; n++) {
+            Check.read(z, "weighs " + n + ";");
+            s.due("next() of " + n + " that tell alike", z.next(), 1);
+        }
         // 4 and 5 alone are told apart.
         VeilOfStones y = Check.convent(6);
         for (int sister = 0; sister < 6; sister++) {

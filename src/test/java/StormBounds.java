@@ -238,6 +238,18 @@ final class StormBounds {
             x.by(i);
             s.due("veil(0, 0) by TEXT " + i, x.veil(0, 0), 11 + i);
         }
+        // Nothing is left of one that is gone in the one that has its number.
+        VeilOfStones y = Check.convent(1);
+        y.vow(2, 0);
+        y.image();
+        Check.read(y, "goes sin = 5; weighs -3; wait 1; wait 2; wait 3;");
+        y.back();
+        Check.read(y, "wait 9;");
+        y.by(0);
+        s.due("veil(0, 0) without weighs", y.veil(0, 0), 3);
+        s.due("light(0, 0, 0) without goes", y.light(0, 0, 0), 2);
+        s.due("played(0)", y.played(0), -1);
+        s.due("DAY", y.about(3), 9);
     }
 
     private static void constant(Sentences s) {

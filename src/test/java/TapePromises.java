@@ -206,11 +206,56 @@ final class TapePromises {
                 x.end(0);
             }, Sight.CONVENT, Sight.STEPS, Sight.IMAGE, Sight.LAWS);
         }
+        nothingIsLeft(s);
         // The next one that has none has the number.
         VeilOfStones x = withFault("weighs 1; goes");
         s.due("text()", Check.read(x, "weighs 44;"), 2);
         x.by(2);
         s.due("veil(0, 0)", x.veil(0, 0), 44);
+    }
+
+    /** A text with a FAULT leaves nothing in the TEXT that has its place then. */
+    private static void nothingIsLeft(Sentences s) {
+        String[] bad = {"wait 5; weighs -3; goes not 1=1; wait 6; !", "weighs 9 - 3 * (2 + -", "weighs ((((((((",
+            "goes 1=1 and not not not not not not not", "goes kind", "weighs 1; goes 1=1; weighs 2;",
+            "weighs -", "goes not", "weighs -3; !", "goes not 1=1; !", "weighs 1" + "+1".repeat(145) + "!"};
+        for (String ahead : bad) {
+            law(s, ahead, "weighs 44;", 44, 2);
+            law(s, ahead, "goes sin=4;", 3, 4);
+            VeilOfStones x = Check.convent(1);
+            x.vow(2, 0);
+            s.due("text() of " + ahead, Check.read(x, ahead), -1);
+            s.due("text() of nothing behind " + ahead, Check.read(x, ""), 0);
+            s.due("played(0)", x.played(0), -1);
+            s.due("DAY", x.about(3), 0);
+            x.by(0);
+            s.due("veil(0, 0) without weighs", x.veil(0, 0), 3);
+            s.due("light(0, 0, 0) without goes", x.light(0, 0, 0), 2);
+            Check.read(x, ahead);
+            s.due("text() of laws behind " + ahead, Check.read(x, "weighs 44;goes sin=4;wait 2;"), 1);
+            x.by(1);
+            s.due("veil(0, 0) by weighs", x.veil(0, 0), 44);
+            s.due("light(0, 0, 0) by goes", x.light(0, 0, 0), 4);
+            s.due("played(1)", x.played(1), -1);
+            s.due("DAY", x.about(3), 2);
+            Check.read(x, ahead);
+            s.due("text() of 8 open ones behind " + ahead, Check.read(x, "weighs ((((((((1))))))));"), 2);
+            Check.read(x, ahead);
+            s.due("text() of 8 open ones behind " + ahead, Check.read(x, "goes --------1=2;"), 3);
+        }
+    }
+
+    /** One law alone behind some texts with a FAULT: the weight of KIND 2 by it, and the SIN that takes it. */
+    private static void law(Sentences s, String ahead, String law, int weight, int sin) {
+        VeilOfStones x = Check.convent(1);
+        x.vow(2, 0);
+        for (int i = 0; i < 3; i++) {
+            Check.read(x, ahead);
+        }
+        s.due("text() of " + law + " behind " + ahead, Check.read(x, law), 0);
+        x.by(0);
+        s.due("veil(0, 0)", x.veil(0, 0), weight);
+        s.due("light(0, 0, 0)", x.light(0, 0, 0), sin);
     }
 
     private static VeilOfStones withFault(String bad) {

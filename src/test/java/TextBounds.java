@@ -188,6 +188,18 @@ final class TextBounds {
         // A second law with a FAULT of its own, and a law with a FAULT ahead of a second one.
         s.bad("weighs 1;weighs !", 4, 9);
         s.bad("weighs !;weighs 1;", 1, 7);
+        // Whichever comes first, and whatever stands between them.
+        for (String text : new String[] {"weighs -7 + 30; goes not kind = 3;", "goes not kind = 3; weighs -7 + 30;",
+            "goes not kind = 3; wait 1; vow 1 of 1; weighs -7 + 30;"}) {
+            VeilOfStones y = Check.convent(1);
+            y.vow(3, 0);
+            y.vow(2, 0);
+            Check.read(y, text);
+            y.by(0);
+            s.due("veil(0, 0) by " + text, y.veil(0, 0), 46);
+            s.due("sin(3, 0) by " + text, y.sin(3, 0), 1);
+            s.due("sin(3, 0) by " + text, y.sin(3, 0), -1);
+        }
         // Laws of one text are not those of the next.
         VeilOfStones x = new VeilOfStones();
         s.due("text()", Check.read(x, "weighs 1;goes 1=1;"), 0);
