@@ -2,7 +2,7 @@
 public final class VeilOfStones {
     public static final int NONE = -1;
 
-    /** What played, procession and about answer to wrong inputs, as NONE has a meaning there. */
+    /** What played, procession and about answer to wrong inputs: NONE has a meaning of its own in them. */
     private static final int NO_SUCH = -2;
 
     private static final int MOST_SISTERS = 6;

@@ -1,18 +1,18 @@
+import java.io.IOException;
+import java.lang.reflect.Array;
 import java.lang.reflect.Constructor;
 import java.lang.reflect.Field;
 import java.lang.reflect.Method;
 import java.lang.reflect.Modifier;
 import java.nio.file.Files;
 import java.nio.file.Path;
-import java.util.ArrayList;
-import java.util.Arrays;
+import java.util.IdentityHashMap;
 import java.util.List;
+import java.util.Map;
 import java.util.Set;
 import java.util.TreeSet;
-import java.util.regex.Matcher;
-import java.util.regex.Pattern;
 
-/** The public face, and what of LANGUAGE.md can be seen in the class and in its source. */
+/** The public face, and what of LANGUAGE.md can be seen in the class and in its source (see Rules). */
 public final class LanguageTest {
     private static final Set<String> FACE = new TreeSet<>(List.of(
         "int sister()", "int feed(int,int,int,int,int)", "int end(int)", "int text()", "int fault(int)",
@@ -21,13 +21,34 @@ public final class LanguageTest {
         "int veil(int,int)", "int spread()", "int level(int)", "int procession(int)", "int light(int,int,int)",
         "int done(int,int,int,boolean)", "int tell(int,int,int)", "int hush()", "int fits()", "int next()",
         "int image()", "int back()", "int about(int)"));
-    private static final Set<String> LIBRARY = Set.of(
-        "Math.max", "Math.min", "Math.abs", "Math.floorMod", "Integer.bitCount", "Integer.compare", "System.arraycopy");
-    private static final Pattern FORBIDDEN = Pattern.compile(
-        "\\b(throw|throws|try|catch|finally|synchronized|assert|import|package|float|double|var|yield|volatile)\\b"
-        + "|->|::|@|\\bnew\\s+\\w+\\s*\\([^)]*\\)\\s*\\{");
-    private static final Pattern METHOD = Pattern.compile(
-        "^ +(?:(?:public|private|static|final) )*[\\w\\[\\]]+ (\\w+)\\(([^)]*)\\) \\{$");
+    /** Rules, and what breaks each if it is put into the class: without that, finding nothing would say nothing. */
+    private static final String[][] BAD = {
+        {"2", "private Object bad() { return new Object() { }; }"},
+        {"2", "private final class Bad { }"},
+        {"3", "private double bad() { return 1; }"},
+        {"3", "private int[][][] bad() { return null; }"},
+        {"4", "private int bad(String text) { return Integer.parseInt(text); }"},
+        {"4", "private int bad(int a) { return Math.addExact(a, a); }"},
+        {"5", "private static int bad = 0;"},
+        {"5", "static { }"},
+        {"6", "private void bad() { throw new RuntimeException(); }"},
+        {"6", "private void bad() { try { now.sisters++; } finally { now.sisters--; } }"},
+        {"6", "private Runnable bad() { return () -> { }; }"},
+        {"6", "private boolean bad(String a, String b) { return a == b; }"},
+        {"7", "private int bad(int a) { return 7 / a; }"},
+        {"7", "private int bad(int a, int b) { a %= b; return a; }"},
+        {"7", "private int bad(int[] row, int a) { return row[a + 1]; }"},
+        {"8", "private int bad(int a) { return a < 0 ? 0 : bad(a - 1); }"},
+        {"8", "private int bad() { return worse(); } private int worse() { return bad(); }"},
+        {"9", "private void bad() { while (true) { now.sisters++; } }"},
+        {"9", "private void bad() { for (;;) { now.sisters++; } }"},
+        {"10", "private void bad(String a, int b) { String c = a + b; }"},
+        {"11", "private void bad(int a, int b, int c, int d, int e, int f, int g, int h) { }"},
+        {"11", "private void bad() {" + "\n".repeat(60) + "}"},
+        {"11", "private int bad(int a) { return played(a); } private int worse(int a) { return bad(a); }"},
+        {"11", "private static final class Bad { }"},
+        {"12", "private int[] bad() { return new int[2]; }"},
+    };
 
     private static final Check CHECK = new Check();
 
@@ -37,6 +58,7 @@ public final class LanguageTest {
             inside(inside);
         }
         CHECK.due("classes, twelve at most", VeilOfStones.class.getDeclaredClasses().length <= 11, true);
+        room();
         source(Files.readString(Path.of(args.length > 0 ? args[0] : "src/main/java/VeilOfStones.java")));
         CHECK.end();
     }
@@ -97,37 +119,45 @@ public final class LanguageTest {
         CHECK.due(of + " has twenty fields at most", own <= 20, true);
     }
 
-    private static void source(String source) {
-        String code = source.replaceAll("(?s)/\\*.*?\\*/", "").replaceAll("//[^\n]*", "");
-        code = code.replaceAll("\"[^\"\n]*\"", "TEXT").replaceAll("'\\\\?.'", "SIGN");
-        Matcher forbidden = FORBIDDEN.matcher(code);
-        while (forbidden.find()) {
-            CHECK.due("LANGUAGE.md rules out " + forbidden.group(), 1, 0);
-        }
-        Matcher library = Pattern.compile("\\b(?:Math|Integer|Long|System|Arrays|String|Character|Object)\\.\\w+")
-            .matcher(code);
-        while (library.find()) {
-            CHECK.due("LANGUAGE.md has " + library.group(), LIBRARY.contains(library.group()), true);
-        }
-        methods(code.lines().toList());
+    /** A room of 600,000 objects and 7,300,000 fields and elements: some thousand convents find place in it. */
+    private static void room() throws IllegalAccessException {
+        Map<Object, Boolean> objects = new IdentityHashMap<>();
+        int elements = elementsOf(new VeilOfStones(), objects);
+        CHECK.due("a new object is " + objects.size() + " objects, 600 at most", objects.size() <= 600, true);
+        CHECK.due("a new object has " + elements + " elements, 7300 at most", elements <= 7300, true);
     }
 
-    private static void methods(List<String> lines) {
-        List<String> found = new ArrayList<>();
-        for (int i = 0; i < lines.size(); i++) {
-            Matcher method = METHOD.matcher(lines.get(i));
-            if (method.find()) {
-                String indent = lines.get(i).substring(0, lines.get(i).length() - lines.get(i).stripLeading().length());
-                int last = i;
-                while (last < lines.size() && !lines.get(last).equals(indent + "}")) {
-                    last++;
-                }
-                found.add(method.group(1));
-                CHECK.due(method.group(1) + " has sixty lines at most", last - i <= 60, true);
-                long parameters = Arrays.stream(method.group(2).split(",")).filter(p -> !p.isBlank()).count();
-                CHECK.due(method.group(1) + " has seven parameters at most", parameters <= 7, true);
+    private static int elementsOf(Object object, Map<Object, Boolean> seen) throws IllegalAccessException {
+        if (object == null || seen.put(object, true) != null) {
+            return 0;
+        }
+        int elements = 0;
+        if (object.getClass().isArray()) {
+            elements = Array.getLength(object);
+            for (int i = 0; i < Array.getLength(object) && object instanceof Object[]; i++) {
+                elements += elementsOf(Array.get(object, i), seen);
+            }
+            return elements;
+        }
+        for (Field field : object.getClass().getDeclaredFields()) {
+            if (!Modifier.isStatic(field.getModifiers())) {
+                field.setAccessible(true);
+                elements += 1 + (field.getType().isPrimitive() ? 0 : elementsOf(field.get(object), seen));
             }
         }
-        CHECK.due("methods were found", found.size() > 100, true);
+        return elements;
+    }
+
+    private static void source(String source) throws IOException {
+        for (String broken : Rules.broken(source)) {
+            CHECK.due(broken, 1, 0);
+        }
+        int last = source.lastIndexOf('}');
+        for (String[] bad : BAD) {
+            String spoilt = source.substring(0, last) + bad[1] + "}";
+            List<String> found = Rules.broken(spoilt);
+            boolean seen = found.stream().anyMatch(finding -> finding.startsWith("rule " + bad[0]));
+            CHECK.due("rule " + bad[0] + " is broken by " + bad[1] + ": " + found, seen, true);
+        }
     }
 }

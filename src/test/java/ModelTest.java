@@ -23,8 +23,9 @@ public final class ModelTest {
 
     public static void main(String[] args) {
         int runs = Integer.getInteger("runs", 400);
+        long from = Long.getLong("from", 1);
         int failed = 0;
-        for (long seed = 1; seed <= runs && failed < 3; seed++) {
+        for (long seed = from; seed < from + runs && failed < 3; seed++) {
             ModelTest test = new ModelTest(seed);
             if (!test.run()) {
                 failed++;
